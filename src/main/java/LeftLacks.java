@@ -228,11 +228,21 @@ public final class LeftLacks {
   }
 
   public int days(int n) {
-    return passDays(n, false);
+    int refused = daysRefusal(n);
+    if (refused != 0) {
+      return error(refused);
+    }
+    now.pass(n, false);
+    return now.sales;
   }
 
   public int loose(int n) {
-    return passDays(n, true);
+    int refused = daysRefusal(n);
+    if (refused != 0) {
+      return error(refused);
+    }
+    now.pass(n, true);
+    return now.sales;
   }
 
   public int seed(int v) {
@@ -419,7 +429,7 @@ public final class LeftLacks {
   }
 
   public int customers(int sheet) {
-    int refused = refusal(sheet);
+    int refused = sheetRefusal(sheet);
     if (refused != 0) {
       return error(refused);
     }
@@ -436,7 +446,7 @@ public final class LeftLacks {
   }
 
   public int judge(int sheet) {
-    int refused = refusal(sheet);
+    int refused = sheetRefusal(sheet);
     if (refused != 0) {
       return error(refused);
     }
@@ -554,19 +564,16 @@ public final class LeftLacks {
     return LOW - k;
   }
 
-  private int passDays(int n, boolean isLoose) {
+  /** The ERROR of DAYS that are to go by, or 0. */
+  private int daysRefusal(int n) {
     if (!within(n, 1, 60)) {
-      return error(BEYOND);
+      return BEYOND;
     }
-    if (now.days + n > MOST_DAYS) {
-      return error(STATE);
-    }
-    now.pass(n, isLoose);
-    return now.sales;
+    return now.days + n > MOST_DAYS ? STATE : 0;
   }
 
-  /** The ERROR of a call that only reads a SHEET, or 0. */
-  private int refusal(int sheet) {
+  /** The ERROR of a call that reads a whole SHEET, or 0. */
+  private int sheetRefusal(int sheet) {
     if (!isSheet(sheet)) {
       return BEYOND;
     }
@@ -578,7 +585,10 @@ public final class LeftLacks {
   }
 
   private static int hold(int v, int least, int most) {
-    return Math.max(least, Math.min(most, v));
+    if (v < least) {
+      return least;
+    }
+    return v > most ? most : v;
   }
 
   private static boolean isGood(int good) {
@@ -891,8 +901,9 @@ public final class LeftLacks {
         fillShop(i);
       }
       for (int i = 0; i < shopCount; i++) {
-        if (shops[i].kind == BUYER) {
-          buyFirst(i);
+        int good = goodToBuy(i);
+        if (good >= 0) {
+          buyOut(i, leftOf(i), good);
         }
       }
       for (int i = 0; i < shopCount; i++) {
@@ -909,18 +920,19 @@ public final class LeftLacks {
       }
     }
 
-    void buyFirst(int buyer) {
-      int left = leftOf(buyer);
-      if (left < 0 || left == buyer) {
-        return;
+    /** The GOOD of which a BUYER buys the one TO THE LEFT out; -1: it is no BUYER, or there is none. */
+    int goodToBuy(int i) {
+      Shop one = shops[i];
+      int left = leftOf(i);
+      if (one.kind != BUYER || left < 0 || left == i) {
+        return -1;
       }
       for (int g = 0; g < GOODS; g++) {
-        boolean bothHave = shops[buyer].stock[g] > 0 && shops[left].stock[g] > 0;
-        if (bothHave && shops[left].stock[g] <= shops[buyer].m) {
-          buyOut(buyer, left, g);
-          return;
+        if (one.stock[g] > 0 && within(shops[left].stock[g], 1, one.m)) {
+          return g;
         }
       }
+      return -1;
     }
 
     void buyOut(int buyer, int left, int good) {

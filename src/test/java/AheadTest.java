@@ -9,6 +9,7 @@ public final class AheadTest {
     outsByLaws();
     joins();
     walks();
+    fullHouse();
     nothingChanges();
     Due.end("AheadTest");
   }
@@ -84,6 +85,13 @@ public final class AheadTest {
     Due.due("23 then the least", x.range(0, 1), 0b001000);
     x.cost(3, 4);
     Due.due("23 the dearer one", x.range(0, 1), 0b100000);
+    LeftLacks all = new LeftLacks();
+    all.shop(0);
+    for (int g = 0; g < 6; g++) {
+      all.set(0, 3 + g, 1);
+    }
+    all.customer(63, 10, 999);
+    Due.due("23 all", all.range(0, 1), 63);
     Due.due("23 n 0", x.range(0, 0), Due.BEYOND);
     Due.due("23 n 6", x.range(0, 6), Due.BEYOND);
     Due.due("23 n 5", x.range(0, 5), 0b100000);
@@ -108,11 +116,48 @@ public final class AheadTest {
     x.rule(0, 0);
     Due.due("24 without customers", x.turn(2, 2), 0);
     Due.due("24 n 20", x.turn(2, 20), 0);
+    Due.due("24 n 1", x.turn(2, 1), 0);
+    unlikeShops();
     Due.due("24 n 0", x.turn(0, 0), Due.BEYOND);
     Due.due("24 n 21", x.turn(0, 21), Due.BEYOND);
     Due.due("24 no such shop", x.turn(3, 1), Due.BEYOND);
     Due.due("24 no such shop", x.turn(-1, 1), Due.BEYOND);
     Due.due("24 told(1)", x.told(1), 4);
+  }
+
+  /** SHOPS that are unlike: who stands to the left of whom, and where customers come in, matters. */
+  private static void unlikeShops() {
+    LeftLacks x = new LeftLacks();
+    x.rule(0, 1);
+    x.shop(0);
+    x.shop(0);
+    x.shop(0);
+    x.set(0, 3, 2);
+    x.set(2, 3, 2);
+    // in the ring SHOP 2 stands to the left of SHOP 0, wherever the row begins
+    x.customer(1, 10, 10);
+    Due.due("24 where the customer comes in", x.turn(2, 3), 1);
+    Due.due("24 the first never sells", x.turn(0, 3), 0);
+    x.rule(0, 0);
+    // one step from the right: turned by 2 SHOP 0 is the last one, but behind SHOP 2, which has it
+    x.leave();
+    x.customer(1, 11, 10);
+    Due.due("24 at the right end it may not", x.turn(0, 3), 0);
+    Due.due("24 at the right end", x.turn(2, 3), 0);
+    x.set(1, 4, 1);
+    x.leave();
+    x.customer(2, 11, 10);
+    Due.due("24 the second to the right end", x.turn(1, 3), 1);
+    Due.due("24 what it has goes with it", x.turn(0, 3), 0);
+    LeftLacks poor = new LeftLacks();
+    poor.shop(0);
+    poor.shop(0);
+    poor.set(1, 3, 9);
+    poor.customer(1, 10, 10);
+    Due.due("24 a purse that is less below 0", poor.turn(1, 1), 1);
+    // turned it sells one a day, and not turned it fills but once
+    Due.due("24 every customer comes", poor.turn(1, 20), 1);
+    Due.due("24 no draws", poor.count(10), 1);
   }
 
   private static void outs() {
@@ -189,6 +234,7 @@ public final class AheadTest {
     x.days(1);
     // apart two more are filled; together there are 4 and 5, as many as are kept
     Due.due("26 both purses", x.joined(0, 1), 10);
+    joinsInTheMiddle();
     Due.due("26 the last", x.joined(2, 1), Due.BEYOND);
     x.rule(0, 1);
     Due.due("26 the last in a ring", x.joined(2, 1), Due.BEYOND);
@@ -198,6 +244,50 @@ public final class AheadTest {
     Due.due("26 n 21", x.joined(0, 21), Due.BEYOND);
     Due.due("26 greatest number", x.joined(Integer.MAX_VALUE, 1), Due.BEYOND);
     Due.due("26 told(1)", x.told(1), 7);
+  }
+
+  /** Those to the right come nearer, with all they have. */
+  private static void joinsInTheMiddle() {
+    LeftLacks x = new LeftLacks();
+    for (int i = 0; i < 4; i++) {
+      x.shop(0);
+    }
+    x.set(2, 3, 1);
+    x.set(3, 4, 1);
+    x.days(2);
+    // SHOP 3 is three steps off when two are joined, but that is its own gain
+    x.customer(2, 30, 999);
+    Due.due("26 not of these two", x.joined(0, 1), 0);
+    Due.due("26 nor of these", x.joined(1, 1), 0);
+    Due.due("26 nearer by one", x.joined(2, 3), 3 * 10 - 2 * 5);
+    x.set(1, 4, 1);
+    x.leave();
+    x.customer(1, 20, 999);
+    // SHOP 2 comes into reach if 0 and 1 are joined; joined with 1 it is so as well
+    Due.due("26 the third one's gain", x.joined(0, 2), 0);
+    Due.due("26 nearer by one", x.joined(1, 2), 2 * 10 - 5);
+    x.set(3, 3, 1);
+    Due.due("26 keeps of both", x.joined(2, 2), 0);
+    LeftLacks last = new LeftLacks();
+    last.shop(0);
+    last.shop(0);
+    last.shop(0);
+    last.set(1, 3, 1);
+    last.customer(1, 11, 10);
+    Due.due("26 the latter one is gone", last.joined(1, 1), 10);
+    LeftLacks lacker = new LeftLacks();
+    lacker.shop(10);
+    lacker.shop(0);
+    lacker.shop(0);
+    lacker.rule(0, 1);
+    lacker.set(0, 3, 1);
+    lacker.set(2, 3, 1);
+    // in the ring the lacker fills nothing but on the first day; with the third gone it would
+    Due.due("26 the last one comes nearer", lacker.joined(1, 3), 0);
+    lacker.set(2, 9, 1);
+    Due.due("26 the last one's stock comes with it", lacker.joined(0, 1), 0);
+    lacker.set(2, 9, 0);
+    Due.due("26 the first fills once", lacker.joined(0, 1), 0);
   }
 
   private static void walks() {
@@ -231,6 +321,36 @@ public final class AheadTest {
     Due.due("27 no such customer", x.walk(-1), Due.BEYOND);
     Due.due("27 told(2)", x.told(2), 2);
     Due.due("27 told(1)", x.told(1), 2);
+  }
+
+  /** As many shops and customers as there may be; each shop keeps one of its own good. */
+  private static void fullHouse() {
+    LeftLacks x = new LeftLacks();
+    for (int i = 0; i < 6; i++) {
+      x.shop(0);
+      x.set(i, 3 + i, 1);
+    }
+    for (int i = 0; i < 10; i++) {
+      x.customer(63, 120 + i % 2, 999);
+    }
+    for (int ring = 0; ring <= 1; ring++) {
+      x.rule(0, ring);
+      Due.due("full: morning()", x.morning(), 6);
+      Due.due("full: walk(0)", x.walk(0), 6);
+      Due.due("full: out", x.out(1, 0), 0);
+      Due.due("full: days(1)", x.days(1), 6);
+      Due.due("full: purses", x.count(6), 6 * 5 * (ring + 1));
+      Due.due("full: then", x.then(60, 5, 2), 5 * 61 + 5 * ring);
+      Due.due("full: keep", x.keep(5, 5, 2), 9);
+      Due.due("full: range", x.range(5, 2), 32);
+      Due.due("full: turn", x.turn(5, 2), 0);
+      Due.due("full: joined", x.joined(4, 2), 0);
+      Due.write(x, 0, 8, 0, 0, 0, 0, 0, 0);
+      Due.due("full: came", x.came(0, 5, 0), 1024);
+      Due.due("full: visit", x.visit(9), 0);
+      Due.due("full: image", x.image(), 1 + ring);
+      Due.due("full: restore", x.restore(), 1 + ring);
+    }
   }
 
   private static void nothingChanges() {

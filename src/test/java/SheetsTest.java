@@ -91,6 +91,7 @@ public final class SheetsTest {
     sum(x, 0, 1, 1, 2);
     Due.due("32 onto itself, to the left", x.move(0, 3, 0, 0, 6), 6);
     sum(x, 0, 1, 2, 2);
+    Due.due("32 all", x.move(1, 0, 1, 0, 6), 6);
     Due.due("32 none", x.move(0, 9, 1, 6, 0), 0);
     Due.due("32 no such sheet", x.move(4, 0, 0, 0, 0), Due.BEYOND);
     Due.due("32 no such sheet", x.move(0, 0, -1, 0, 0), Due.BEYOND);

@@ -4,6 +4,7 @@ public final class TextsTest {
     feeding();
     values();
     faults();
+    oneBehindAnother();
     names();
     telling();
     Due.end("TextsTest");
@@ -152,6 +153,27 @@ public final class TextsTest {
     fault(1, "c+s+d+m", -1);
     fault(0, "1+1+1+1+1+1+1+1+1+1+1+1+1+1+1+1+1+1+1+1+1+1+1+1+1+1+1+1+1+1", -1);
     fault(0, "1+1+1+1+1+1+1+1+1+1+1+1+1+1+1+1+1+1+1+1+1+1+1+1+1+1+1+1+1+1+", 60);
+  }
+
+  /** What one text leaves open is gone with it. */
+  private static void oneBehindAnother() {
+    LeftLacks x = new LeftLacks();
+    x.shop(60);
+    String[] broken = {"((((1", "!!!!", "1+(2*", "12", "(1<2", "1|!(", "k+"};
+    for (String text : broken) {
+      Due.tellText(x, 0, text);
+      Due.due("14 behind " + text, Due.tellText(x, 0, "((((1))))"), 1);
+      Due.due("9 behind " + text, x.fills(0, 0), 1);
+      Due.tellText(x, 0, text);
+      Due.due("14 digit behind " + text, Due.tellText(x, 0, "34"), 1);
+      Due.due("9 digit behind " + text, x.fills(0, 0), 34);
+      Due.tellText(x, 0, text);
+      Due.due("14 bracket behind " + text, Due.tellText(x, 0, "3)"), -11);
+    }
+    Due.tellText(x, 0, "0|7");
+    Due.due("9 the least binding sign", x.fills(0, 0), 1);
+    Due.tellText(x, 0, "!0");
+    Due.due("9 the most binding sign", x.fills(0, 0), 1);
   }
 
   private static void names() {
