@@ -10,14 +10,20 @@ final class Due {
 
   private static int wrong = 0;
   private static int asked = 0;
+  private static String sentence = "";
 
   private Due() {}
+
+  /** The sentence of the document that what follows would break. */
+  static void by(String words) {
+    sentence = " (" + words + ")";
+  }
 
   static void due(String call, long got, long want) {
     asked++;
     if (got != want) {
       wrong++;
-      System.out.println(call + " answered " + got + ", due is " + want);
+      System.out.println(call + " answered " + got + ", due is " + want + sentence);
     }
   }
 
