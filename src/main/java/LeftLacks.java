@@ -1051,7 +1051,7 @@ public final class LeftLacks {
       int top = 0;
       for (int i = 0; i < length; i++) {
         int code = codes[i];
-        if (code >= -4) {
+        if (code >= -4 && top < stack.length) {
           stack[top] = code >= 0 ? code : named(code, first, second, third, fourth);
           top++;
         } else if (code == -'!' && top >= 1) {

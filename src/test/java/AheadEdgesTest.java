@@ -6,6 +6,7 @@ public final class AheadEdgesTest {
     aheadDrawsNothing();
     keeps();
     keepsOfSeveral();
+    leastPurses();
     ranges();
     rangesOfSeveral();
     turns();
@@ -158,6 +159,25 @@ public final class AheadEdgesTest {
     Due.due("PURSE", held.shopIs(0, 2), 999999);
     held.untell(0);
     Due.due("all alike", held.keep(0, 0, 1), 0);
+  }
+
+  /** All PURSES are at their least, and stay there. */
+  private static void leastPurses() {
+    Due.by("PURSES held at -999999 are alike: of several the least");
+    LeftLacks x = row(60, 60);
+    for (int good = 0; good < 6; good++) {
+      x.cost(good, 99);
+    }
+    for (int i = 0; i < 20; i++) {
+      Due.tellText(x, 0, "99");
+      x.morning();
+      Due.tellText(x, 0, "0");
+      x.morning();
+    }
+    Due.due("PURSE", x.shopIs(1, 2), -999999);
+    Due.due("KEEP", x.keep(1, 3, 2), 0);
+    Due.due("RANGE", x.range(1, 2), 0);
+    Due.due("TURN", x.turn(1, 2), 0);
   }
 
   private static void ranges() {

@@ -100,6 +100,19 @@ public final class DayEdgesTest {
       Due.due("GOOD " + good, x.shopIs(1, 9 + good), due[good]);
     }
     Due.due("no other one is bought", x.shopIs(0, 14), 3);
+    Due.by("and the other one has some: else the next GOOD");
+    LeftLacks next = row(0, 52);
+    next.set(0, 4, 2);
+    next.set(1, 3, 2);
+    next.set(1, 4, 2);
+    next.morning();
+    Due.due("GOOD 0, of which the other one has none", next.shopIs(1, 9), 1);
+    Due.due("GOOD 1", next.shopIs(1, 10), 3);
+    Due.by("but not more than m: else the next GOOD");
+    next.set(0, 3, 3);
+    next.morning();
+    Due.due("GOOD 0, of which the other one has 3", next.shopIs(0, 9), 3);
+    Due.due("GOOD 1", next.shopIs(1, 10), 3);
     Due.by("none of which both have some");
     LeftLacks none = row(0, 59);
     none.set(0, 3, 3);

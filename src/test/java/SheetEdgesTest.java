@@ -258,6 +258,22 @@ public final class SheetEdgesTest {
       Due.due("CUSTOMERS", x.count(1), n / 3);
       Due.due("told(1)", x.told(1), 0);
     }
+    Due.by("three by three: WANTS, sf, COIN");
+    LeftLacks x = new LeftLacks();
+    int[][] three = {{1, 31, 700}, {20, 120, 8}, {63, 11, 999}};
+    Due.write(x, 0, 16, 1, 31, 700, 20, 120, 8, 63, 11, 999);
+    Due.due("all three", x.customers(0), 3);
+    for (int i = 0; i < 3; i++) {
+      Due.due("WANTS of " + i, x.customerIs(i, 0), three[i][0]);
+      Due.due("STEPS of " + i, x.customerIs(i, 1), three[i][1] / 10);
+      Due.due("FROM of " + i, x.customerIs(i, 2), three[i][1] % 10);
+      Due.due("COIN of " + i, x.customerIs(i, 3), three[i][2]);
+    }
+    refusedCustomers();
+  }
+
+  private static void refusedCustomers() {
+    Due.by("up to the first that customer() would refuse (no ERROR then)");
     int[][] wrong = {{-1, 10, 0}, {64, 10, 0}, {1, 9, 0}, {1, 0, 0}, {1, 12, 0}, {1, 19, 0}, {1, 122, 0},
         {1, 130, 0}, {1, -10, 0}, {1, 10, -1}, {1, 10, 1000}};
     for (int[] one : wrong) {

@@ -319,6 +319,18 @@ public final class ShopEdgesTest {
     x.set(3, 10, 1);
     Due.due("behind one that came since", x.shopIs(3, 15), 2);
     Due.due("behind one that had one", x.shopIs(2, 15), 0);
+    Due.by("each GOOD by itself");
+    for (int good = 0; good < 6; good++) {
+      LeftLacks one = row(0, 0);
+      one.rule(1, 2);
+      one.set(0, 3 + good, 1);
+      one.morning();
+      for (int other = 0; other < 6; other++) {
+        one.set(0, 9 + other, 0);
+        one.set(1, 9 + other, 1);
+      }
+      Due.due("it had GOOD " + good, one.shopIs(1, 15), 63 - (1 << good));
+    }
     Due.by("LAW 2 in a RING");
     LeftLacks ring = ring(0, 0);
     ring.rule(1, 2);
@@ -374,6 +386,12 @@ public final class ShopEdgesTest {
     x.set(0, 9, 0);
     x.morning();
     Due.due("PURSE", x.shopIs(0, 2), -99);
+    Due.by("16 morning: how many things there are in all SHOPS then");
+    LeftLacks full = row(60, 60, 60, 60, 60, 60);
+    Due.tellText(full, 0, "99");
+    Due.due("as many as there may be", full.morning(), 6 * 6 * 99);
+    Due.tellText(full, 0, "0");
+    Due.due("none", full.morning(), 0);
     Due.by("a MORNING alone is no DAY");
     Due.due("DAYS", x.count(2), 0);
     Due.due("SALES", x.count(3), 0);

@@ -270,6 +270,11 @@ public final class TextEdgesTest {
     fault(0, "(!!!!0+!!!!!0)", 11);
     fault(0, "((((!0+(!0)))))", 8);
     fault(0, "(((((9)))))+((((((9))))))", 17);
+    Due.by("signs between two parts close nothing");
+    fault(0, "(((((1+1+(1))))))", 9);
+    fault(0, "(((((1+1*1+!1)))))", 11);
+    fault(0, "((((1+2+(3+4+(5))))))", 13);
+    gives("((((1+2+(3+4+5)))))", 15);
     Due.by("a sixth is a FAULT, whatever would come behind it");
     fault(0, "!!!!!!", 5);
     fault(0, "((((((", 5);
