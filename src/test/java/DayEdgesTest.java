@@ -21,23 +21,9 @@ public final class DayEdgesTest {
     Due.end("DayEdgesTest");
   }
 
-  private static LeftLacks row(int... kms) {
-    LeftLacks x = new LeftLacks();
-    for (int km : kms) {
-      x.shop(km);
-    }
-    return x;
-  }
-
-  private static LeftLacks ring(int... kms) {
-    LeftLacks x = row(kms);
-    x.rule(0, 1);
-    return x;
-  }
-
   private static void buyersBesideNobody() {
     Due.by("each BUYER that has somebody else TO THE LEFT");
-    LeftLacks first = row(59, 0);
+    LeftLacks first = Rows.row(59, 0);
     first.set(0, 3, 8);
     first.set(1, 3, 2);
     Due.due("the first in a row", first.morning(), 6);
@@ -47,13 +33,13 @@ public final class DayEdgesTest {
     first.morning();
     Due.due("the first in a ring", first.shopIs(0, 9), 6);
     Due.due("the last is bought out", first.shopIs(1, 9), 0);
-    LeftLacks alone = ring(59);
+    LeftLacks alone = Rows.ring(59);
     alone.set(0, 3, 8);
     Due.due("alone in a ring", alone.morning(), 4);
     Due.due("pays COST alone", alone.shopIs(0, 2), -20);
     Due.by("BUYER (of KIND 5)");
     for (int kind = 0; kind <= 6; kind++) {
-      LeftLacks x = row(0, 10 * kind + 9);
+      LeftLacks x = Rows.row(0, 10 * kind + 9);
       x.set(0, 3, 2);
       x.set(1, 4, 2);
       x.set(0, 4, 2);
@@ -65,7 +51,7 @@ public final class DayEdgesTest {
 
   /** What the BUYER with m has, that has 1 of GOOD 0 itself, beside one that has so many. */
   private static void beside(int m, int others, int due) {
-    LeftLacks x = row(0, 50 + m);
+    LeftLacks x = Rows.row(0, 50 + m);
     x.set(0, 3, others);
     x.set(1, 3, 2);
     x.morning();
@@ -87,7 +73,7 @@ public final class DayEdgesTest {
 
   private static void buyersFirstGood() {
     Due.by("the first GOOD of which it has some itself");
-    LeftLacks x = row(0, 59);
+    LeftLacks x = Rows.row(0, 59);
     for (int good = 0; good < 6; good++) {
       x.set(0, 3 + good, 3);
     }
@@ -101,7 +87,7 @@ public final class DayEdgesTest {
     }
     Due.due("no other one is bought", x.shopIs(0, 14), 3);
     Due.by("and the other one has some: else the next GOOD");
-    LeftLacks next = row(0, 52);
+    LeftLacks next = Rows.row(0, 52);
     next.set(0, 4, 2);
     next.set(1, 3, 2);
     next.set(1, 4, 2);
@@ -114,7 +100,7 @@ public final class DayEdgesTest {
     Due.due("GOOD 0, of which the other one has 3", next.shopIs(0, 9), 3);
     Due.due("GOOD 1", next.shopIs(1, 10), 3);
     Due.by("none of which both have some");
-    LeftLacks none = row(0, 59);
+    LeftLacks none = Rows.row(0, 59);
     none.set(0, 3, 3);
     none.set(1, 4, 2);
     Due.due("nothing is bought", none.morning(), 4);
@@ -123,7 +109,7 @@ public final class DayEdgesTest {
 
   private static void buyersByNumbers() {
     Due.by("by numbers each BUYER");
-    LeftLacks x = row(0, 59, 59);
+    LeftLacks x = Rows.row(0, 59, 59);
     x.set(0, 3, 1);
     x.set(1, 3, 2);
     x.set(2, 3, 2);
@@ -131,13 +117,13 @@ public final class DayEdgesTest {
     Due.due("the first", x.shopIs(0, 9), 0);
     Due.due("the second bought one and is bought out of two", x.shopIs(1, 9), 0);
     Due.due("the third", x.shopIs(2, 9), 3);
-    LeftLacks more = row(0, 59, 51);
+    LeftLacks more = Rows.row(0, 59, 51);
     more.set(0, 3, 1);
     more.set(1, 3, 2);
     more.set(2, 3, 2);
     more.morning();
     Due.due("the second has more than m by then", more.shopIs(1, 9), 2);
-    LeftLacks around = ring(59, 59);
+    LeftLacks around = Rows.ring(59, 59);
     around.set(0, 3, 2);
     around.set(1, 3, 2);
     around.morning();
@@ -147,7 +133,7 @@ public final class DayEdgesTest {
 
   private static void buyersPay() {
     Due.by("pays the other one's PRICE for each");
-    LeftLacks x = row(39, 52);
+    LeftLacks x = Rows.row(39, 52);
     x.cost(0, 7);
     x.set(0, 3, 9);
     x.set(1, 3, 2);
@@ -155,7 +141,7 @@ public final class DayEdgesTest {
     Due.due("out of the one PURSE", x.shopIs(1, 2), -7 - 21);
     Due.due("into the other one's", x.shopIs(0, 2), -7 + 21);
     Due.by("PRICE (as it is ahead)");
-    LeftLacks told = row(60, 59);
+    LeftLacks told = Rows.row(60, 59);
     told.cost(0, 0);
     told.set(0, 3, 3);
     told.set(1, 3, 2);
@@ -168,7 +154,7 @@ public final class DayEdgesTest {
 
   private static void pursesInMornings() {
     Due.by("a PURSE (held within -999999 .. 999999), in a MORNING");
-    LeftLacks x = row(60);
+    LeftLacks x = Rows.row(60);
     for (int good = 0; good < 6; good++) {
       x.cost(good, 99);
     }
@@ -191,7 +177,7 @@ public final class DayEdgesTest {
 
   /** A SHOP whose PURSE is so much, by sales at no COST. */
   private static LeftLacks rich(int km, int purse) {
-    LeftLacks x = row(km);
+    LeftLacks x = Rows.row(km);
     x.set(0, 0, 6);
     for (int good = 0; good < 6; good++) {
       x.cost(good, 0);
@@ -259,7 +245,7 @@ public final class DayEdgesTest {
   }
 
   private static LeftLacks sixOfTheirOwn() {
-    LeftLacks x = row(0, 0, 0, 0, 0, 0);
+    LeftLacks x = Rows.row(0, 0, 0, 0, 0, 0);
     for (int i = 0; i < 6; i++) {
       x.set(i, 9 + i, 2);
     }
@@ -276,7 +262,7 @@ public final class DayEdgesTest {
       Due.due(steps + " from the left", x.visit(0), (1 << most) - 1);
       Due.due(steps + " from the right", x.visit(1), 63 & 63 << (6 - most));
     }
-    LeftLacks one = row(0);
+    LeftLacks one = Rows.row(0);
     one.set(0, 9, 2);
     one.customer(1, 120, 999);
     Due.due("a row of one", one.visit(0), 1);
@@ -294,12 +280,12 @@ public final class DayEdgesTest {
       Due.due(steps + " from the left", x.visit(0), (1 << most) - 1);
       Due.due(steps + " from the right", x.visit(1), 63 & 63 << (6 - most));
     }
-    LeftLacks alone = ring(0);
+    LeftLacks alone = Rows.ring(0);
     alone.set(0, 9, 1);
     alone.customer(1, 120, 999);
     Due.due("alone in a ring", alone.visit(0), 0);
     Due.by("what it MAY sell now: a sale on the way lets the next one sell");
-    LeftLacks two = row(0, 0);
+    LeftLacks two = Rows.row(0, 0);
     two.set(0, 9, 1);
     two.set(1, 9, 1);
     two.customer(1, 20, 999);
@@ -315,7 +301,7 @@ public final class DayEdgesTest {
     int[] coins = {0, 9, 10, 13, 14, 999};
     int[] due = {0, 4, 1, 1, 5, 7};
     for (int i = 0; i < coins.length; i++) {
-      LeftLacks x = row(0);
+      LeftLacks x = Rows.row(0);
       x.cost(1, 30);
       x.cost(2, 2);
       for (int good = 0; good < 3; good++) {
@@ -326,13 +312,13 @@ public final class DayEdgesTest {
       Due.due("again with " + coins[i], x.visit(0), due[i]);
     }
     Due.by("PRICE 0 and COIN 0");
-    LeftLacks free = row(0);
+    LeftLacks free = Rows.row(0);
     free.cost(0, 0);
     free.set(0, 9, 1);
     free.customer(1, 10, 0);
     Due.due("for nothing", free.visit(0), 1);
     Due.by("COIN (of this VISIT) less");
-    LeftLacks way = row(0, 0);
+    LeftLacks way = Rows.row(0, 0);
     way.set(0, 9, 1);
     way.set(1, 10, 1);
     way.customer(3, 20, 19);
@@ -345,7 +331,7 @@ public final class DayEdgesTest {
 
   private static void goodsByNumbers() {
     Due.by("in each by numbers of GOODS");
-    LeftLacks x = row(0);
+    LeftLacks x = Rows.row(0);
     for (int good = 0; good < 6; good++) {
       x.set(0, 9 + good, 1);
     }
@@ -357,7 +343,7 @@ public final class DayEdgesTest {
 
   private static void wantsAndHad() {
     Due.by("one that is WANTED and not had yet");
-    LeftLacks x = row(0, 0);
+    LeftLacks x = Rows.row(0, 0);
     x.set(0, 9, 1);
     x.set(1, 9, 1);
     x.set(1, 10, 1);
@@ -369,7 +355,7 @@ public final class DayEdgesTest {
     Due.due("STOCK of the second, though it may sell then", x.shopIs(1, 9), 1);
     Due.due("wants all others", x.visit(2), 2);
     Due.by("STOCK 1 less");
-    LeftLacks two = row(0);
+    LeftLacks two = Rows.row(0);
     two.set(0, 9, 2);
     two.customer(1, 10, 999);
     two.visit(0);
@@ -380,7 +366,7 @@ public final class DayEdgesTest {
 
   private static void sales() {
     Due.by("SALES: how many things were sold on the latest DAY");
-    LeftLacks x = row(0);
+    LeftLacks x = Rows.row(0);
     x.set(0, 3, 9);
     x.set(0, 8, 9);
     for (int i = 0; i < 10; i++) {
@@ -397,7 +383,7 @@ public final class DayEdgesTest {
     Due.due("none", x.days(1), 0);
     Due.due("none", x.count(3), 0);
     Due.by("VISITS of all CUSTOMERS by numbers");
-    LeftLacks few = row(0);
+    LeftLacks few = Rows.row(0);
     few.cost(1, 6);
     few.set(0, 4, 1);
     few.set(0, 3, 1);
@@ -410,7 +396,7 @@ public final class DayEdgesTest {
     few.customer(2, 10, 12);
     Due.due("the first buys both", few.days(1), 2);
     Due.by("DAYS so far are 1 more when all have gone");
-    LeftLacks told = row(60);
+    LeftLacks told = Rows.row(60);
     told.set(0, 3, 2);
     told.cost(0, 0);
     told.customer(1, 10, 0);
@@ -422,7 +408,7 @@ public final class DayEdgesTest {
   private static void looseDays() {
     Due.by("ahead of each VISIT a draw: if its rest by 4 is 0, there is none");
     for (int seed = -3; seed <= 40; seed++) {
-      LeftLacks x = row(0);
+      LeftLacks x = Rows.row(0);
       x.set(0, 3, 9);
       x.customer(1, 10, 999);
       x.seed(seed);
@@ -431,7 +417,7 @@ public final class DayEdgesTest {
       Due.due("z behind " + seed, x.count(10), z);
     }
     Due.by("draws go by CUSTOMERS, not by what they buy");
-    LeftLacks x = row(0);
+    LeftLacks x = Rows.row(0);
     x.customer(0, 10, 0);
     x.customer(63, 10, 0);
     int z = 1;
@@ -446,7 +432,7 @@ public final class DayEdgesTest {
     Due.due("nobody, no draws", x.count(10), z);
     Due.due("DAYS", x.count(2), 8);
     Due.by("each VISIT has a draw of its own");
-    LeftLacks two = row(0);
+    LeftLacks two = Rows.row(0);
     two.set(0, 3, 9);
     two.customer(1, 10, 999);
     two.customer(1, 10, 999);

@@ -298,17 +298,7 @@ public final class ImageEdgesTest {
 
   private static void purses() {
     Due.by("count(6): PURSES of all");
-    LeftLacks x = new LeftLacks();
-    for (int i = 0; i < 6; i++) {
-      x.shop(60);
-      x.cost(i, 99);
-    }
-    for (int i = 0; i < 20; i++) {
-      Due.tellText(x, 0, "99");
-      x.morning();
-      Due.tellText(x, 0, "0");
-      x.morning();
-    }
+    LeftLacks x = Rows.poorest(6);
     Due.due("all at their least", x.count(6), -6 * 999999);
   }
 

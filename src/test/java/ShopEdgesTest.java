@@ -17,20 +17,6 @@ public final class ShopEdgesTest {
     Due.end("ShopEdgesTest");
   }
 
-  private static LeftLacks row(int... kms) {
-    LeftLacks x = new LeftLacks();
-    for (int km : kms) {
-      x.shop(km);
-    }
-    return x;
-  }
-
-  private static LeftLacks ring(int... kms) {
-    LeftLacks x = row(kms);
-    x.rule(0, 1);
-    return x;
-  }
-
   private static void atFirst() {
     LeftLacks x = new LeftLacks();
     Due.by("GOODS 0 .. 5 have a COST (0 .. 99; 5 at first)");
@@ -63,7 +49,7 @@ public final class ShopEdgesTest {
 
   /** FILLS of a SHOP alone in a row, of so many that it KEEPS. */
   private static void fills(int km, int keeps, int due) {
-    LeftLacks x = row(km);
+    LeftLacks x = Rows.row(km);
     x.set(0, 8, keeps);
     Due.due("fills of " + km + " that keeps " + keeps, x.fills(0, 5), due);
   }
@@ -100,7 +86,7 @@ public final class ShopEdgesTest {
   private static void fillsBesideOthers() {
     Due.by("LACKER: but 0, if the one TO THE LEFT has some now");
     for (int kind = 1; kind <= 4; kind += 3) {
-      LeftLacks x = row(0, 10 * kind + 2, 0);
+      LeftLacks x = Rows.row(0, 10 * kind + 2, 0);
       x.set(1, 3, 5);
       int full = kind == 1 ? 5 : 7;
       Due.due("left has none", x.fills(1, 0), full);
@@ -115,14 +101,14 @@ public final class ShopEdgesTest {
       Due.due("another good, itself, the right one", x.fills(1, 0), full);
     }
     Due.by("in a RING the last SHOP (itself, if it is alone)");
-    LeftLacks two = ring(10, 0);
+    LeftLacks two = Rows.ring(10, 0);
     two.set(0, 3, 5);
     Due.due("the last has none", two.fills(0, 0), 5);
     two.set(1, 9, 1);
     Due.due("the last has one", two.fills(0, 0), 0);
     two.rule(0, 0);
     Due.due("in a row nobody has", two.fills(0, 0), 5);
-    LeftLacks one = ring(10);
+    LeftLacks one = Rows.ring(10);
     one.set(0, 3, 5);
     Due.due("itself has none", one.fills(0, 0), 5);
     one.set(0, 9, 1);
@@ -134,7 +120,7 @@ public final class ShopEdgesTest {
     String[] texts = {"0-1", "0", "99", "100", "9999", "8192*8192*32", "0-8192*8192*32+1-2"};
     int[] due = {0, 0, 99, 99, 99, 0, 99};
     for (int i = 0; i < texts.length; i++) {
-      LeftLacks x = row(60);
+      LeftLacks x = Rows.row(60);
       Due.due("text " + texts[i], Due.tellText(x, 0, texts[i]), 1);
       Due.due("fills by " + texts[i], x.fills(0, 0), due[i]);
       Due.due("morning by " + texts[i], x.morning(), 6 * due[i]);
@@ -142,7 +128,7 @@ public final class ShopEdgesTest {
   }
 
   private static void price(int km, int cost, int due) {
-    LeftLacks x = row(km);
+    LeftLacks x = Rows.row(km);
     x.cost(5, cost);
     Due.due("price of " + km + " at cost " + cost, x.price(0, 5), due);
   }
@@ -178,7 +164,7 @@ public final class ShopEdgesTest {
     String[] texts = {"0-1", "0", "999", "1000", "9999", "8192*8192*32", "0-8192*8192*32+1-2"};
     int[] due = {0, 0, 999, 999, 999, 0, 999};
     for (int i = 0; i < texts.length; i++) {
-      LeftLacks x = row(60);
+      LeftLacks x = Rows.row(60);
       x.set(0, 9, 1);
       x.customer(1, 10, 999);
       Due.due("text " + texts[i], Due.tellText(x, 1, texts[i]), 1);
@@ -190,7 +176,7 @@ public final class ShopEdgesTest {
 
   private static void toTheLeft() {
     Due.by("TO THE LEFT is the one with the number that is 1 less; of SHOP 0 nobody is");
-    LeftLacks x = row(0, 0, 0, 0, 0, 0);
+    LeftLacks x = Rows.row(0, 0, 0, 0, 0, 0);
     for (int shop = 0; shop < 6; shop++) {
       x.set(shop, 9, 1);
     }
@@ -210,7 +196,7 @@ public final class ShopEdgesTest {
     x.set(5, 9, 0);
     Due.due("ring, SHOP 0, the last lacks it", x.shopIs(0, 15), 1);
     Due.by("itself, if it is alone");
-    LeftLacks alone = ring(0);
+    LeftLacks alone = Rows.ring(0);
     alone.set(0, 9, 1);
     for (int law = 0; law <= 2; law++) {
       alone.rule(1, law);
@@ -225,7 +211,7 @@ public final class ShopEdgesTest {
 
   private static void lawNought() {
     Due.by("A SHOP MAY sell a GOOD of which it has some, if the one TO THE LEFT has none of it now");
-    LeftLacks x = row(0, 0, 0);
+    LeftLacks x = Rows.row(0, 0, 0);
     for (int law = 0; law <= 2; law++) {
       x.rule(1, law);
       Due.due("it has none, law " + law, x.shopIs(1, 15), 0);
@@ -253,7 +239,7 @@ public final class ShopEdgesTest {
 
   private static void lawOne() {
     Due.by("if also the one TO THE LEFT of that one has none (LAW 1)");
-    LeftLacks x = row(0, 0, 0, 0);
+    LeftLacks x = Rows.row(0, 0, 0, 0);
     x.rule(1, 1);
     x.set(2, 9, 1);
     Due.due("both lack it", x.shopIs(2, 15), 1);
@@ -272,14 +258,14 @@ public final class ShopEdgesTest {
     x.set(3, 11, 1);
     Due.due("nobody is to the left", x.shopIs(0, 15), 4);
     Due.by("LAW 1 in a RING of three");
-    LeftLacks three = ring(0, 0, 0);
+    LeftLacks three = Rows.ring(0, 0, 0);
     three.rule(1, 1);
     three.set(0, 9, 1);
     Due.due("the others lack it", three.shopIs(0, 15), 1);
     three.set(1, 9, 1);
     Due.due("the second has it", three.shopIs(0, 15), 0);
     Due.by("so each SHOP itself lacks it in a RING of two: never");
-    LeftLacks two = ring(0, 0);
+    LeftLacks two = Rows.ring(0, 0);
     two.rule(1, 1);
     two.set(0, 9, 1);
     two.set(1, 10, 1);
@@ -292,7 +278,7 @@ public final class ShopEdgesTest {
 
   private static void lawTwo() {
     Due.by("if the one TO THE LEFT had none at the end of the latest MORNING (as at first)");
-    LeftLacks x = row(0, 0);
+    LeftLacks x = Rows.row(0, 0);
     x.rule(1, 2);
     x.set(1, 9, 1);
     Due.due("at first none had any", x.shopIs(1, 15), 1);
@@ -321,7 +307,7 @@ public final class ShopEdgesTest {
     Due.due("behind one that had one", x.shopIs(2, 15), 0);
     Due.by("each GOOD by itself");
     for (int good = 0; good < 6; good++) {
-      LeftLacks one = row(0, 0);
+      LeftLacks one = Rows.row(0, 0);
       one.rule(1, 2);
       one.set(0, 3 + good, 1);
       one.morning();
@@ -332,7 +318,7 @@ public final class ShopEdgesTest {
       Due.due("it had GOOD " + good, one.shopIs(1, 15), 63 - (1 << good));
     }
     Due.by("LAW 2 in a RING");
-    LeftLacks ring = ring(0, 0);
+    LeftLacks ring = Rows.ring(0, 0);
     ring.rule(1, 2);
     ring.set(1, 3, 1);
     ring.morning();
@@ -345,14 +331,14 @@ public final class ShopEdgesTest {
 
   private static void lawTwoInTheMorning() {
     Due.by("the end of the latest MORNING is behind BUYING OUT");
-    LeftLacks x = row(0, 52);
+    LeftLacks x = Rows.row(0, 52);
     x.rule(1, 2);
     x.set(0, 3, 2);
     x.set(1, 3, 2);
     x.morning();
     Due.due("bought out in the morning", x.shopIs(1, 15), 1);
     Due.by("sold since the MORNING: it had some, though it has none now");
-    LeftLacks y = row(0, 0);
+    LeftLacks y = Rows.row(0, 0);
     y.rule(1, 2);
     y.set(0, 3, 1);
     y.set(1, 3, 1);
@@ -366,7 +352,7 @@ public final class ShopEdgesTest {
 
   private static void mornings() {
     Due.by("for each that is more than there was PURSE is COST less");
-    LeftLacks x = row(0);
+    LeftLacks x = Rows.row(0);
     x.cost(0, 99);
     x.set(0, 3, 9);
     x.set(0, 9, 8);
@@ -387,7 +373,7 @@ public final class ShopEdgesTest {
     x.morning();
     Due.due("PURSE", x.shopIs(0, 2), -99);
     Due.by("16 morning: how many things there are in all SHOPS then");
-    LeftLacks full = row(60, 60, 60, 60, 60, 60);
+    LeftLacks full = Rows.row(60, 60, 60, 60, 60, 60);
     Due.tellText(full, 0, "99");
     Due.due("as many as there may be", full.morning(), 6 * 6 * 99);
     Due.tellText(full, 0, "0");
@@ -399,7 +385,7 @@ public final class ShopEdgesTest {
 
   private static void morningsByNumbers() {
     Due.by("SHOPS by numbers");
-    LeftLacks x = row(0, 10, 10);
+    LeftLacks x = Rows.row(0, 10, 10);
     for (int shop = 0; shop < 3; shop++) {
       x.set(shop, 3, 2);
     }
@@ -407,13 +393,13 @@ public final class ShopEdgesTest {
     Due.due("the second", x.shopIs(1, 9), 0);
     Due.due("the third", x.shopIs(2, 9), 2);
     Due.by("in a RING the first goes by what the last had ahead of the MORNING");
-    LeftLacks ring = ring(10, 0);
+    LeftLacks ring = Rows.ring(10, 0);
     ring.set(0, 3, 2);
     ring.set(1, 3, 1);
     Due.due("the last has none yet", ring.morning(), 3);
     Due.due("the last has one", ring.morning(), 1);
     Due.by("GOODS by numbers");
-    LeftLacks told = ring(60);
+    LeftLacks told = Rows.ring(60);
     Due.tellText(told, 0, "l+1");
     Due.due("each good is one more", told.morning(), 6);
     Due.due("and one more", told.morning(), 12);
